@@ -91,7 +91,6 @@ public final class RegionStack {
             return UNKNOWN;
         }
         int before = told.text.count;
-        told.text.signs.fill(0);
         told.text.count = 0;
         textChanged(told);
         return before;
@@ -387,7 +386,7 @@ public final class RegionStack {
         }
     }
 
-    /** What is said of a body; behind the signs there are zeros. */
+    /** What is said of a body. */
     private static final class Text {
         final Row signs = new Row(SIGNS);
         int count;
