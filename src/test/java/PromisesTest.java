@@ -1,40 +1,10 @@
 /** Each promise of the document, by its number: ordinary inputs, edges, refused answers. */
-public final class PromisesTest {
-    private static final int NONE = -6, UNKNOWN = -1, OUTSIDE = -2, STATE = -3, FULL = -4, NO = -5;
+public final class PromisesTest extends Asks {
     private static final int[] NO_BODIES = {-1, 3, Integer.MIN_VALUE, Integer.MAX_VALUE};
 
-    private static int asked = 0;
-    private static int wrong = 0;
-
     private static void due(int promise, String what, int got, int want) {
-        asked++;
-        if (got != want) {
-            wrong++;
-            System.out.println("promise " + promise + ": " + what + " answered " + got + ", due is " + want);
-        }
-    }
-
-    private static void text(RegionStack x, int body, String text) {
-        x.wipe(body);
-        for (int i = 0; i < text.length(); i++) {
-            x.say(body, text.charAt(i));
-        }
-    }
-
-    /** Kinds as body() tells them, 10 * given + gives. */
-    private static RegionStack program(int kinds0, String text0, int kinds1, String text1, int kinds2, String text2) {
-        RegionStack x = new RegionStack();
-        x.body(0, kinds0 / 10, kinds0 % 10);
-        x.body(1, kinds1 / 10, kinds1 % 10);
-        x.body(2, kinds2 / 10, kinds2 % 10);
-        text(x, 0, text0);
-        text(x, 1, text1);
-        text(x, 2, text2);
-        return x;
-    }
-
-    private static RegionStack one(int kinds, String text) {
-        return program(kinds, text, 0, "x", 0, "x");
+        sentence("promise " + promise);
+        due(what, got, want);
     }
 
     private static void newObject() {
@@ -295,31 +265,26 @@ public final class PromisesTest {
         due(11, "a home inside", x.home(1, 2), 0);
     }
 
-    private static void runIs(RegionStack x, int n, int[] due) {
-        for (int what = 0; what < due.length; what++) {
-            due(13, "run(0, " + n + ", " + what + ")", x.run(0, n, what), due[what]);
-        }
-    }
-
     private static void runs() {
-        runIs(one(0, "5"), 3, new int[] {5, 1, 0, 0, 0, 0, 0, 0});
-        runIs(one(10, "5"), 3, new int[] {5, 1, 1, 1, 1, 1, 0, 0});
-        runIs(one(10, "*x"), 12, new int[] {12, 2, 1, 1, 1, 1, 1, 0});
-        runIs(one(11, "x"), 999, new int[] {999, 1, 1, 1, 1, 1, 1, 0});
-        runIs(one(11, "n-*x"), 10, new int[] {9, 4, 2, 2, 2, 2, 1, 0});
-        runIs(one(0, "-x"), 0, new int[] {0, 2, 0, 0, 0, 0, 0, 0});
-        runIs(one(0, "+xx"), 500, new int[] {0, 3, 0, 0, 0, 0, 0, 0});
-        runIs(one(0, "+xx"), 999, new int[] {998, 3, 0, 0, 0, 0, 0, 0});
-        runIs(one(0, "?x12"), 0, new int[] {2, 3, 0, 0, 0, 0, 0, 0});
-        runIs(one(0, "?x12"), 7, new int[] {1, 3, 0, 0, 0, 0, 0, 0});
-        runIs(one(0, "la1+la2aa"), 7, new int[] {3, 7, 0, 0, 0, 0, 0, 0});
+        sentence("promise 13");
+        runIs(one(0, "5"), 3, 5, 1, 0, 0, 0, 0, 0, 0);
+        runIs(one(10, "5"), 3, 5, 1, 1, 1, 1, 1, 0, 0);
+        runIs(one(10, "*x"), 12, 12, 2, 1, 1, 1, 1, 1, 0);
+        runIs(one(11, "x"), 999, 999, 1, 1, 1, 1, 1, 1, 0);
+        runIs(one(11, "n-*x"), 10, 9, 4, 2, 2, 2, 2, 1, 0);
+        runIs(one(0, "-x"), 0, 0, 2, 0, 0, 0, 0, 0, 0);
+        runIs(one(0, "+xx"), 500, 0, 3, 0, 0, 0, 0, 0, 0);
+        runIs(one(0, "+xx"), 999, 998, 3, 0, 0, 0, 0, 0, 0);
+        runIs(one(0, "?x12"), 0, 2, 3, 0, 0, 0, 0, 0, 0);
+        runIs(one(0, "?x12"), 7, 1, 3, 0, 0, 0, 0, 0, 0);
+        runIs(one(0, "la1+la2aa"), 7, 3, 7, 0, 0, 0, 0, 0, 0);
         // one region closed ahead of the next, then two at once
-        runIs(one(0, "+*n1*n2"), 0, new int[] {3, 7, 2, 1, 1, 2, 0, 0});
-        runIs(one(0, "lan1lbn2+*a*b"), 0, new int[] {3, 11, 2, 2, 2, 2, 0, 0});
+        runIs(one(0, "+*n1*n2"), 0, 3, 7, 2, 1, 1, 2, 0, 0);
+        runIs(one(0, "lan1lbn2+*a*b"), 0, 3, 11, 2, 2, 2, 2, 0, 0);
         // a region whose home is NEW alone is closed at once
-        runIs(one(0, "lan1lbn2lcn3*c"), 0, new int[] {3, 11, 3, 1, 1, 3, 0, 0});
+        runIs(one(0, "lan1lbn2lcn3*c"), 0, 3, 11, 3, 1, 1, 3, 0, 0);
         // a branch that is not taken opens nothing
-        runIs(one(0, "?x*n1*n2"), 0, new int[] {2, 5, 1, 1, 1, 1, 0, 0});
+        runIs(one(0, "?x*n1*n2"), 0, 2, 5, 1, 1, 1, 1, 0, 0);
         RegionStack x = one(0, "5");
         for (int body : NO_BODIES) {
             due(13, "run(" + body + ", -1, 9)", x.run(body, -1, 9), UNKNOWN);
@@ -342,22 +307,14 @@ public final class PromisesTest {
         due(15, "mixed, not well", x.mixed(0, 0), NO);
     }
 
-    private static void unknown(RegionStack x, int n) {
-        for (int what = 0; what < 8; what++) {
-            due(13, "a run that is not known", x.run(0, n, what), STATE);
-        }
-        due(14, "words of a run that is not known", x.words(0, n, 0), STATE);
-        due(14, "plain words of a run that is not known", x.words(0, n, 1), STATE);
-        due(15, "mixed of a run that is not known", x.mixed(0, n), STATE);
-    }
-
     private static void limits() {
+        sentence("promise 13");
         // given n, body 1 takes 12 * 2^n - 9 steps
         String steps = "+@17+@16+@15+@14+@13+@12";
         RegionStack x = program(0, steps + "-----------1", 0, "?x+@1-x@1-x0", 0, "x");
         due(13, "3000 steps", x.run(0, 0, 1), 3000);
         text(x, 0, steps + "------------1");
-        unknown(x, 0);
+        runIsNotKnown(x, 0);
 
         // given n, body 1 makes 4 * 2^n boxes
         String body1 = "?x+@1-x@1-x+*n1+*n1+*n1*n1";
@@ -367,17 +324,17 @@ public final class PromisesTest {
         due(14, "300 words in the plain run", x.words(0, 0, 1), 300);
         due(15, "1 by 300", x.mixed(0, 0), Float.floatToIntBits(1f / 300f));
         x.body(0, 1, 0);
-        unknown(x, 0);
+        runIsNotKnown(x, 0);
         text(x, 0, "+@16+@13+@11+*n1+*n1*n1");
         due(13, "300 boxes with the one that is given", x.run(0, 0, 2), 300);
         x.body(0, 0, 0);
         text(x, 0, "+@16+@13+@11+@10*n1");
-        unknown(x, 0);
+        runIsNotKnown(x, 0);
 
         x = one(0, "?x+1@0-x0");
         due(13, "12 calls in one another", x.run(0, 12, 0), 12);
         due(13, "12 calls", x.run(0, 12, 7), 12);
-        unknown(x, 13);
+        runIsNotKnown(x, 13);
         due(13, "a known run behind one that is not", x.run(0, 1, 0), 1);
         x = one(0, "@1".repeat(19) + "x");
         due(13, "calls in what is given are not in one another", x.run(0, 5, 7), 19);
@@ -385,7 +342,7 @@ public final class PromisesTest {
         // a tree as deep as it goes, twelve times
         x = one(0, "?x" + "-".repeat(30) + "@0-xx");
         due(13, "deep terms in twelve calls", x.run(0, 12, 1), 12 * 35 + 3);
-        unknown(one(0, "@0x"), 0);
+        runIsNotKnown(one(0, "@0x"), 0);
     }
 
     private static void words() {
@@ -501,9 +458,6 @@ public final class PromisesTest {
         words();
         images();
         told();
-        System.out.println(asked + " answers asked, " + wrong + " not as due");
-        if (wrong != 0) {
-            System.exit(1);
-        }
+        end();
     }
 }

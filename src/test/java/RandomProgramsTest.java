@@ -42,7 +42,7 @@ public final class RandomProgramsTest {
         Chance chance = new Chance(1000000 + number);
         Pair pair = new Pair();
         String signs = "0129xabcdn*-+?l@lan@2*-x3!~e";
-        for (int i = 0; i < 12; i++) {
+        for (int i = 0; i < 12 && pair.hasRoom(); i++) {
             int body = chance.below(3);
             int sort = chance.below(8);
             if (sort == 0) {
