@@ -4,12 +4,15 @@ public final class RegionsEdgesTest extends Asks {
     private static final String PUTS_INTO_P = "la?0xn12", LOOKS_INTO_P = "*x", PUTS_INTO_R = "nx", LOOKS_INTO_R = "lb@1x?*bbb";
 
     private static void regionsOf(int kinds, String text, String due) {
-        regionsAre(one(kinds, text), 0, due);
+        regionsOf(kinds, text, 0, "x", due);
     }
 
-    /** Body 1 is called. */
+    /** Body 1 is called. What gives a NUMBER is tried in a NEW, too, which is in R. */
     private static void regionsOf(int kinds, String text, int calledKinds, String called, String due) {
         regionsAre(program(kinds, text, calledKinds, called, 0, "x"), 0, due);
+        if (kinds % 10 == 0) {
+            regionsAre(program(kinds + 1, "n" + text, calledKinds, called, 0, "x"), 0, "1" + due);
+        }
     }
 
     private static void tellsAre(RegionStack x, int body, int pass, int effect, int own) {
@@ -319,6 +322,9 @@ public final class RegionsEdgesTest extends Asks {
         sentence("a PART that does it in two ways is one PART");
         touchesAre(program(0, "*@1n1", 11, "x", 0, "x"), 2, 3, 1, 1);
         touchesAre(program(0, "*@1n1", 11, "?*xxn1", 0, "x"), 2, 3, 2, 2);
+        touchesAre(program(0, "lan1*?0a@1a", 11, "lb?0xn1n*b", 0, "x"), 2, 6, 2, 2);
+        touchesAre(program(0, "lan1*?0a@1a", 11, "n*x", 0, "x"), 2, 6, 2, 2);
+        touchesAre(program(0, "lan1*?0a@1a", 11, "n1", 0, "x"), 2, 6, 2, 1);
         sentence("touches: the REGION 0 to 99, what");
         RegionStack x = one(10, "*x");
         for (int region : beyond(0, 99)) {
@@ -375,6 +381,27 @@ public final class RegionsEdgesTest extends Asks {
         due("home(3, 99), not WELL", x.home(3, 99), UNKNOWN);
     }
 
+    private static void theLastPlaceOfAFullText() {
+        sentence("REGIONS of a text of 40 signs");
+        RegionStack x = one(10, "-".repeat(38) + "*x");
+        tellsAre(x, 0, 0, 2, 0);
+        regionsAre(x, 0, ".".repeat(39) + "0");
+        x = one(11, "n" + "-".repeat(37) + "*x");
+        tellsAre(x, 0, 0, 6, 0);
+        regionsAre(x, 0, "1" + ".".repeat(38) + "0");
+        x = one(1, "nlan1" + "-".repeat(33) + "*a");
+        tellsAre(x, 0, 0, 4, 1);
+        regionsAre(x, 0, "1..2" + ".".repeat(35) + "2");
+        homesAre(x, 1);
+        touchesAre(x, 2, 3, 1, 1);
+        x = one(11, "?" + "-".repeat(36) + "1xx");
+        tellsAre(x, 0, 1, 0, 0);
+        regionsAre(x, 0, "0" + ".".repeat(37) + "00");
+        x = one(0, "-".repeat(37) + "*n1");
+        regionsAre(x, 0, ".".repeat(38) + "2.");
+        homesAre(x, 37);
+    }
+
     private static void numbersAndPlacesAsked() {
         sentence("tells: UNKNOWN; OUTSIDE; NO: the PROGRAM is not WELL");
         RegionStack x = one(10, "*x");
@@ -428,6 +455,52 @@ public final class RegionsEdgesTest extends Asks {
         due("tells(2, 0)", x.tells(2, 0), NO);
     }
 
+    private static RegionStack calling(int kinds, String text, int body) {
+        String called = text.replace("@", "@" + body);
+        String[] texts = {"x", "x", "x"};
+        int[] both = {0, 0, 0};
+        texts[body] = called;
+        both[body] = kinds;
+        return program(both[0], texts[0], both[1], texts[1], both[2], texts[2]);
+    }
+
+    private static void nothingIsLeftOfWhatWas() {
+        for (int body = 0; body < 3; body++) {
+            sentence("as few BODIES a PASS, where there was one");
+            RegionStack x = calling(11, "?*x@xx", body);
+            tellsAre(x, body, 1, 10, 0);
+            text(x, body, "?*x@" + body + "xn1");
+            tellsAre(x, body, 0, 6, 0);
+            regionsAre(x, body, "1.01.01.");
+            sentence("EFFECT: as few as can be, where there was one");
+            x = calling(10, "?*x@x1", body);
+            tellsAre(x, body, 0, 2, 0);
+            text(x, body, "@" + body + "x");
+            tellsAre(x, body, 0, 0, 0);
+            sentence("OWN REGIONS, where there were others");
+            for (int round = 0; round < 3; round++) {
+                text(x, body, "+*n1+*n2*x");
+                tellsAre(x, body, 0, 2, 2);
+                regionsAre(x, body, "..2...3..0");
+                text(x, body, "*n*x");
+                tellsAre(x, body, 0, 2, 1);
+                regionsAre(x, body, ".2.0");
+                text(x, body, "*x");
+                tellsAre(x, body, 0, 2, 0);
+                due("home(" + body + ", 2)", x.home(body, 2), OUTSIDE);
+                due("touches(" + body + ", 2, 0)", x.touches(body, 2, 0), 0);
+            }
+        }
+        sentence("REGIONS of a shorter text behind a longer one");
+        RegionStack x = one(11, "lax?*xa?*xax");
+        regionsAre(x, 0, "0.00.000.000");
+        x.body(0, 0, 1);
+        text(x, 0, "nlan1lbn2+*a*b");
+        regionsAre(x, 0, "1..2...3...2.3");
+        text(x, 0, "?1n2n+-3*n4");
+        regionsAre(x, 0, "1.1.1....2.");
+    }
+
     public static void main(String[] args) {
         whoIsInOneRegion();
         whichBodyIsAPass();
@@ -440,8 +513,10 @@ public final class RegionsEdgesTest extends Asks {
         effectsOfCallsOfCalls();
         whatTouches();
         homes();
+        theLastPlaceOfAFullText();
         numbersAndPlacesAsked();
         foundAnewBehindEachChange();
+        nothingIsLeftOfWhatWas();
         end();
     }
 }

@@ -122,6 +122,9 @@ public final class RunsEdgesTest extends Asks {
         due("run(0, 0, 0)", x.run(0, 0, 0), 7);
         x = program(0, "?xlax+@0-xa0", 0, "x", 0, "x");
         due("run(0, 4, 0)", x.run(0, 4, 0), 10);
+        sentence("x is what the BODY is given, behind a CALL of it, too");
+        comesTo(0, "?x+@0-xx0", 4, 10);
+        comesTo(10, "?*x+@0n-*x*x0", 4, 10);
     }
 
     private static void regionsOfTheStart() {
@@ -177,6 +180,15 @@ public final class RunsEdgesTest extends Asks {
         sentence("a REGION is opened anew with each evaluation of its HOME");
         runIs(one(0, "?x+*nx@0-x0"), 3, 6, 30, 3, 1, 1, 3, 0, 3);
         runIs(one(0, "lanx?*a@0-*a0"), 3, 0, 37, 4, 4, 4, 4, 0, 3);
+        sentence("NEW puts a BOX into the REGION that is open for that where it is, behind a CALL of its BODY, too");
+        RegionStack again = one(0, "lanx?x+@0-x*?0an90");
+        runIs(again, 2, 18, 34, 5, 3, 3, 3, 0, 2);
+        wordsAre(again, 2, 3, 5);
+        // Put behind the last CALL into 12's own REGION, it is of two WORDS; ahead of it, 12 down to 0 are there.
+        runIs(again, 12, 108, 12 * 14 + 6, 25, 13, 13, 13, 3, 12);
+        wordsAre(again, 12, 16, 28);
+        again = one(0, "lanx?-x+@0-x*?0an90");
+        runIs(again, 11, 90, 10 * 15 + 7, 21, 11, 11, 11, 2, 10);
         sentence("BOXES that are put into a REGION of the caller stay when the CALL is over");
         RegionStack x = program(0, "lan1+@1a+@1a*a", 10, "la?0xn12", 0, "x");
         due("run(0, 0, 3)", x.run(0, 0, 3), 3);
@@ -301,8 +313,13 @@ public final class RunsEdgesTest extends Asks {
         sentence("twelve CALLS in one another, each deep in its TERM");
         x = one(0, "?x" + "-".repeat(30) + "@0-xx");
         due("run(0, 12, 1)", x.run(0, 12, 1), 12 * 35 + 3);
+        // 16 REGIONS are open ahead of each CALL, and 9 in the last one; those of the TERM in a CALL are closed.
         x = one(0, "*n".repeat(9) + "?x" + "*n".repeat(7) + "@0-xx");
-        due("run(0, 12, 4)", x.run(0, 12, 4), 13 * 9 + 12 * 7);
+        runIs(x, 12, 0, 12 * 37 + 21, 201, 1, 201, 201, 0, 12);
+        wordsAre(x, 12, 1, 201);
+        x = one(0, "lanxlbnxlcnx?x+@0-x+*a+*b*c0");
+        runIs(x, 12, 3 * 78, 12 * 23 + 12, 39, 39, 39, 39, 9, 12);
+        wordsAre(x, 12, 30 + 18, 30 + 18);
         x = program(0, "?x@0-x" + "*n".repeat(16) + "x", 0, "x", 0, "x");
         due("run(0, 12, 4)", x.run(0, 12, 4), 16);
     }
@@ -408,7 +425,32 @@ public final class RunsEdgesTest extends Asks {
             due("run(2, 3, 0)", x.run(2, 3, 0), 3);
             due("run(2, 3, 2)", x.run(2, 3, 2), 0);
         }
+        sentence("a RUN behind one of another BODY that is given the same");
+        x = program(10, "+*x*n1", 0, "+x1", 1, "nx");
+        for (int round = 0; round < 2; round++) {
+            for (int n = 11; n < 14; n++) {
+                due("run(0, " + n + ", 0)", x.run(0, n, 0), n + 1);
+                due("run(1, " + n + ", 0)", x.run(1, n, 0), n + 1);
+                due("run(2, " + n + ", 0)", x.run(2, n, 0), n);
+                due("run(1, " + n + ", 2)", x.run(1, n, 2), 0);
+                due("run(0, " + n + ", 2)", x.run(0, n, 2), 2);
+                due("words(2, " + n + ", 0)", x.words(2, n, 0), 2);
+                due("words(1, " + n + ", 0)", x.words(1, n, 0), 0);
+            }
+        }
+        sentence("a RUN that is less than the one ahead of it");
+        x = program(11, "n*x", 0, "lanxlbn2+*a*b", 0, "x");
+        text(x, 0, "n+*n1+*n2*x");
+        runIs(x, 12, 15, 11, 4, 2, 3, 4, 2, 0);
+        due("run(1, 12, 0)", x.run(1, 12, 0), 14);
+        for (int what = 2; what <= 7; what++) {
+            due("run(2, 12, " + what + ")", x.run(2, 12, what), 0);
+        }
+        due("words(2, 12, 0)", x.words(2, 12, 0), 0);
+        due("words(2, 12, 1)", x.words(2, 12, 1), 0);
+        due("mixed(2, 12)", x.mixed(2, 12), 0);
         sentence("a RUN behind a change");
+        x = program(10, "+*x*n1", 0, "@1x", 0, "x");
         text(x, 0, "+*x*n2");
         due("run(0, 3, 0)", x.run(0, 3, 0), 5);
         text(x, 1, "+x1");
