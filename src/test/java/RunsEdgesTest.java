@@ -248,6 +248,20 @@ public final class RunsEdgesTest extends Asks {
         due("run(0, 0, 1)", x.run(0, 0, 1), 2999);
         text(x, 0, "@19");
         runIsNotKnown(x, 0);
+        sentence("more than 3000 STEPS, whichever PART is the number 3001");
+        for (String last : new String[] {"1", "x", "-1", "+11", "?111", "?011", "la1a", "*n1", "@11"}) {
+            text(x, 0, head + "------------" + last);
+            due("fault(0) with " + last, x.fault(0), NONE);
+            runIsNotKnown(x, 0);
+        }
+        String[] lasts = {"-1", "*nx", "@20"};
+        int[] lastSteps = {2, 3, 3};
+        for (int i = 0; i < lasts.length; i++) {
+            text(x, 0, head + "-----------" + lasts[i]);
+            runIsNotKnown(x, 0);
+            text(x, 0, head + "-------" + lasts[i]);
+            due("run(0, 0, 1) with " + lasts[i], x.run(0, 0, 1), 2995 + lastSteps[i]);
+        }
     }
 
     private static void at300Boxes() {
